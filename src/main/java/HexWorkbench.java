@@ -1008,27 +1008,33 @@ public final class HexWorkbench {
         }
 
         private int outcome(long own, long free, boolean connecting, int number, int depth) {
-            int best = recall(number) - 1;
-            if (best >= 0) {
-                return best;
+            int found = recall(number) - 1;
+            if (found >= 0) {
+                return found;
             }
             // Only the move just made can have decided it; at the start there is none.
             if ((depth == 0 || !connecting) && board.linked(own, from, to)) {
-                best = 1;
+                found = 1;
             } else if ((depth == 0 || connecting) && !board.linked(own | free, from, to)) {
-                best = 0;
+                found = 0;
+            } else {
+                found = bestOutcome(own, free, connecting, number, depth);
             }
-            boolean open = best < 0 && depth < MAX_SOLVED;
+            remember(number, found + 1);
+            return found;
+        }
+
+        private int bestOutcome(long own, long free, boolean connecting, int number, int depth) {
+            int best = -1;
             int digit = connecting ? 1 : 2;
-            for (int i = 0; open && i < MAX_SOLVED; i++) {
+            for (int i = 0; i < MAX_SOLVED && depth < MAX_SOLVED; i++) {
                 long spot = spots[i];
                 if ((free & spot) != 0) {
-                    int next = outcome(connecting ? own | spot : own, free & ~spot, !connecting,
+                    int next = 2 + outcome(connecting ? own | spot : own, free & ~spot, !connecting,
                             number + digit * POWERS[i], depth + 1);
-                    best = best < 0 ? next + 2 : better(best, next + 2, connecting);
+                    best = best < 0 ? next : better(best, next, connecting);
                 }
             }
-            remember(number, best + 1);
             return best;
         }
 

@@ -95,6 +95,8 @@ final class RegionsTest {
         HexWorkbench y = Due.game(5, 3, 0, 12, 1, 21);
         Due.is("two bridges", y.smallestFull(0, 3, 21, Due.set(7, 8, 16, 17, 20, 24)), 4);
         Due.is("one bridge and a half", y.smallestFull(0, 3, 21, Due.set(7, 8, 16)), -15);
+        HexWorkbench z = Due.game(7, 4, 0, 17, 1, 30, 2, 43);
+        Due.is("three bridges", z.smallestFull(0, 4, 43, Due.set(10, 11, 23, 24, 36, 37)), 6);
     }
 
     private static void smallestErrors() {
