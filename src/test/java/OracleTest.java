@@ -4,12 +4,17 @@ import java.util.Random;
 final class OracleTest {
     private static final int RUNS = 400;
     private static final int CALLS = 150;
+    /** The document's limit; a run stops a little before it, since one step makes up to 12 calls. */
+    private static final int LIFE = 512;
+    private static final int LONG_RUNS = 25;
+    private static final int LARGEST_STEP = 12;
     private static final int KINDS = 44;
 
     private final Random random;
     private final HexWorkbench x = new HexWorkbench();
     private final Reference y = new Reference();
     private final String run;
+    private int made;
 
     private OracleTest(int seed) {
         random = new Random(seed);
@@ -18,23 +23,27 @@ final class OracleTest {
 
     public static void main(String[] args) {
         for (int seed = 0; seed < RUNS && !Due.anyWrong(); seed++) {
-            new OracleTest(seed).go();
+            boolean whole = seed < LONG_RUNS;
+            new OracleTest(seed).go(whole ? LIFE : CALLS);
         }
         Due.end();
     }
 
     private void due(String call, long got, long want) {
+        made++;
         Due.is(run + call, got, want);
     }
 
-    private void go() {
+    private void go(int calls) {
         int rows = 2 + random.nextInt(random.nextInt(6) + 1);
         due("begin(" + rows + ")", x.begin(rows), y.begin(rows));
         fillSomewhat();
-        for (int i = 0; i < CALLS; i++) {
+        while (made < calls - LARGEST_STEP) {
             call(random.nextInt(KINDS));
         }
-        due("checksum()", x.checksum(), y.checksum());
+        while (made < calls) {
+            due("checksum()", x.checksum(), y.checksum());
+        }
     }
 
     /** So that the calls that want few empty cells come into their own. */
