@@ -116,7 +116,7 @@ final class SolvingBoundsTest {
         Due.is("a full board", Due.game(2, 0, 1, 3, 2).winningMoves(), 0);
         HexWorkbench swapped = Due.game(2, 0, Due.SWAP, 3, 1);
         Due.is("winner() after a swap", swapped.winner(), 1);
-        Due.is("the winner to move", swapped.turn(), 0);
+        Due.is("turn(), of who has lost", swapped.turn(), 0);
         Due.is("winningMoves() after a swap", swapped.winningMoves(), 0);
     }
 
