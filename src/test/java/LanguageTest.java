@@ -39,7 +39,7 @@ import javax.tools.JavaCompiler;
 import javax.tools.StandardJavaFileManager;
 import javax.tools.ToolProvider;
 
-/** Those rules of LANGUAGE.md that the compiler's own tree of the source can tell. */
+/** Rules of LANGUAGE.md, checked in part by the compiler's own tree of the source: each test names its own. */
 final class LanguageTest {
     private static final Path SOURCE = Path.of("src/main/java/HexWorkbench.java");
     private static final int MOST_PARAMETERS = 7;
